@@ -378,10 +378,12 @@ public final class TurningFractions {
         if (kind == 0) {
             return one.a;
         }
-        if (one.kind() != kind - 1) {
+        // kinds 1, 2, 3 here are the KINDS 0, 1, 2 of a FRACTION
+        int wanted = kind - 1;
+        if (one.kind() != wanted) {
             return OTHER_KIND;
         }
-        return kind == 2 ? one.length : one.head;
+        return wanted == PURE ? one.length : one.head;
     }
 
     public int was(int h, int i) {
@@ -532,7 +534,7 @@ public final class TurningFractions {
     }
 
     private static boolean isPrime(int number) {
-        for (int by = 2; by < number; by++) {
+        for (int by = 2; by * by <= number; by++) {
             if (remainder(number, by) == 0) {
                 return false;
             }
