@@ -562,7 +562,8 @@ public final class TurningFractions {
     }
 
     // No divisor is ever 0 and no index ever outside; the four functions below test it all the
-    // same, so that whatever comes the machine itself never throws.
+    // same, so that whatever comes the machine itself never throws. (What divides elsewhere tests
+    // it on the spot, so that calls do not go deeper.)
 
     private static int remainder(int number, int by) {
         return by == 0 ? 0 : number % by;
@@ -629,11 +630,11 @@ public final class TurningFractions {
          * fading part it ends in 0 and stays there. So just the multiples of that part come again.
          */
         private boolean turns(int rest) {
-            return remainder(rest, fading) == 0;
+            return fading == 0 || rest % fading == 0;
         }
 
         int restAfter(int rest) {
-            return remainder(rest * base, b);
+            return b == 0 ? 0 : rest * base % b;
         }
 
         int digitOf(int rest) {
