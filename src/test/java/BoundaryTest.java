@@ -154,8 +154,8 @@ public final class BoundaryTest extends NamedTests {
         due(x.rest(0, 2), 4);
         due(x.digit(0, 1), 8);
         due(x.block(0, 1, 0), 3);
+        due(x.shift(0, 1), 0);
         due(x.shift(0, 4), 0);
-        due(x.multiple(0, 0), 4);
     }
 
     private static void promise03_noSuchFraction() {
@@ -1420,7 +1420,7 @@ public final class BoundaryTest extends NamedTests {
             due(x.of(1, what), elevenths[what]);
         }
         due(x.digit(0, 1), 8);
-        due(x.multiple(0, 0), 4);
+        due(x.shift(0, 1), 0);
         due(x.digit(1, 3), 13);
     }
 
