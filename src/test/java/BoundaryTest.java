@@ -492,6 +492,17 @@ public final class BoundaryTest extends NamedTests {
         due(x.block(0, 3, 0), BAD);
     }
 
+    private static void promise11_aShorterPeriodBehindALonger() {
+        TurningFractions x = with(1, 7, 10);
+        x.fraction(10, 11, 10);
+        due(x.block(0, 1, 0), 7);
+        due(x.block(1, 1, 0), 0);
+        due(x.block(1, 1, 1), 9);
+        due(x.block(1, 2, 0), 9);
+        due(x.block(1, 2, -1), 0);
+        due(x.block(1, 1, 2), BAD);
+    }
+
     private static void promise11_noSuchFraction() {
         due(with(1, 7, 10).block(1, 1, 0), BAD);
         due(with(1, 7, 10).block(-1, 1, 0), BAD);
@@ -843,6 +854,18 @@ public final class BoundaryTest extends NamedTests {
             due(x.tells(0, kind, 99), highest[kind]);
             due(x.tells(0, kind, 100), NO);
             due(x.tells(0, kind, MOST), NO);
+        }
+    }
+
+    private static void promise21_aShorterPeriodBehindALonger() {
+        TurningFractions x = with(1, 7, 10);
+        x.fraction(1, 3, 10);
+        x.fraction(1, 8, 10);
+        long[] third = {3, 3, 3, 9, 5, 1};
+        for (int kind = 0; kind < 6; kind++) {
+            x.tells(0, kind, 2);
+            due(x.tells(1, kind, kind == 4 ? 5 : 2), third[kind]);
+            due(x.tells(2, kind, 2), 0);
         }
     }
 
